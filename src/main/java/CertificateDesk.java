@@ -766,7 +766,7 @@ public final class CertificateDesk {
             for (int i = 1; i <= count; i++) {
                 char c = characters[string + i];
                 boolean dot = c == '.';
-                boolean letter = c >= 'a' && c <= 'z' || c >= '0' && c <= '9';
+                boolean letter = (c >= 'a' && c <= 'z') || (c >= '0' && c <= '9');
                 if (!letter && (!dot || afterDot)) {
                     return false;
                 }
@@ -1004,7 +1004,7 @@ public final class CertificateDesk {
 
         void putInteger(int n) {
             int count = 1;
-            while (count < 4 && n >> 8 * count - 1 != 0) {
+            while (count < 4 && (n >> (8 * count - 1)) != 0) {
                 count++;
             }
             put(INTEGER);
@@ -1037,7 +1037,7 @@ public final class CertificateDesk {
 
         private void putHighestFirst(int n, int count) {
             for (int i = count - 1; i >= 0; i--) {
-                put(n >> 8 * i & 255);
+                put((n >> (8 * i)) & 255);
             }
         }
 
