@@ -975,7 +975,7 @@ public final class CertificateDesk {
     }
 
     private static final class Octets {
-        // A certificate of three names of twelve characters has 72 octets, and none has more than 76.
+        // No certificate has more than 72: three names of twelve characters, and a key's number of four octets.
         private static final int MOST_OCTETS = 80;
         private static final int INTEGER = 2;
         private static final int ROW = 48;

@@ -1,6 +1,9 @@
 /** Counts the answers that are not as due, for the tests of the project. */
 final class Checks {
     private final String test;
+    private String sentence = "";
+    private int sentences = 0;
+    private int madeBefore = 0;
     private int made = 0;
     private int wrong = 0;
 
@@ -8,11 +11,19 @@ final class Checks {
         this.test = test;
     }
 
+    /** The answers from here on are those that this sentence of the document asks for. */
+    void sentence(String words) {
+        endSentence();
+        sentence = "\"" + words + "\": ";
+        sentences++;
+        madeBefore = made;
+    }
+
     void due(String what, long got, long want) {
         made++;
         if (got != want) {
             wrong++;
-            System.out.println(test + ": " + what + " answered " + got + ", due is " + want);
+            System.out.println(test + ": " + sentence + what + " answered " + got + ", due is " + want);
         }
     }
 
@@ -25,9 +36,17 @@ final class Checks {
     }
 
     void end() {
-        System.out.println(test + ": " + made + " answers looked at, " + wrong + " wrong");
+        endSentence();
+        System.out.println(test + ": " + sentences + " sentences, " + made + " answers looked at, " + wrong + " wrong");
         if (wrong != 0) {
             System.exit(1);
+        }
+    }
+
+    private void endSentence() {
+        if (sentences > 0 && made == madeBefore) {
+            wrong++;
+            System.out.println(test + ": " + sentence + "no answer was looked at");
         }
     }
 }

@@ -34,6 +34,12 @@ final class Reference {
         return BigInteger.valueOf(digest).modPow(secret, BigInteger.valueOf(modulus(key))).intValueExact();
     }
 
+    /** The remainder that the signature's power leaves: that of the digest, if it is the signature. */
+    static int opened(int[] key, int signature) {
+        return BigInteger.valueOf(signature).modPow(BigInteger.valueOf(key[2]), BigInteger.valueOf(modulus(key)))
+            .intValueExact();
+    }
+
     static int thumbprint(int[] key) {
         return digest(key[2] + ":" + modulus(key));
     }
