@@ -37,7 +37,8 @@ final class Checks {
 
     void end() {
         endSentence();
-        System.out.println(test + ": " + sentences + " sentences, " + made + " answers looked at, " + wrong + " wrong");
+        String counted = sentences > 0 ? sentences + " sentences, " : "";
+        System.out.println(test + ": " + counted + made + " answers looked at, " + wrong + " wrong");
         if (wrong != 0) {
             System.exit(1);
         }

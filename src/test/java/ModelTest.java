@@ -109,7 +109,8 @@ public final class ModelTest {
         int key = random.nextInt(4) == 0 ? random.nextInt(6) : random.nextInt(1 << random.nextInt(30));
         int account = known.orders.get(order).account;
         send(known.accounts.get(account).key, account,
-            "{\"op\":\"finish\",\"order\":" + order + ",\"csr\":{\"key\":" + key + ",\"names\":" + quoted(asked) + "}}");
+            "{\"op\":\"finish\",\"order\":" + order + ",\"csr\":{\"key\":" + key
+                + ",\"names\":" + quoted(asked) + "}}");
     }
 
     private static String quoted(List<String> parts) {

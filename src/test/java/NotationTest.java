@@ -74,8 +74,8 @@ public final class NotationTest extends Sentences {
             + "value)");
         good("{}", "{\"\":0}", "{\"a\":1}", "{\"a\":1,\"b\":[2],\"c\":\"\",\"d\":{}}", "{\"a\":1,\"a\":2}");
         wrong("{", "}", "{1}", "{\"a\"}", "{\"a\":}", "{:1}", "{\"a\":1,}", "{,}", "{,\"a\":1}", "{\"a\":1,,\"b\":2}",
-            "{a:1}", "{a\":1}", "{1:1}", "{1\":1}", "{[]:1}", "{\"a\":1]", "{\"a\",1}", "{\"a\"::1}", "{\"a\"1}", "{\"a\":1\"b\":2}",
-            "{\"a\":1,2}", "{\"a\":1}}");
+            "{\"a\":1,2}", "{\"a\":1\"b\":2}", "{\"a\":1]", "{\"a\":1}}");
+        wrong("{a:1}", "{a\":1}", "{\"a:1}", "{1:1}", "{1\":1}", "{[]:1}", "{\"a\",1}", "{\"a\"::1}", "{\"a\"1}");
         dueForNew("{}", -1);
     }
 
@@ -307,8 +307,8 @@ public final class NotationTest extends Sentences {
     }
 
     private void fieldsOfFinish() {
-        sentence("finish, with the fields order, a number, and csr, an object with the fields key, a number, and names, "
-            + "an array of strings, whatever and however many");
+        sentence("finish, with the fields order, a number, and csr, an object with the fields key, a number, and "
+            + "names, an array of strings, whatever and however many");
         String both = "\"names\":[\"a\",\"b\"]";
         dueForFinish(",\"order\":0,\"csr\":{\"key\":3," + both + "}", 0);
         dueForFinish(",\"csr\":{" + both + ",\"key\":3,\"z\":[]},\"z\":0,\"order\":0", 0);

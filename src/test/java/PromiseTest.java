@@ -86,8 +86,8 @@ public final class PromiseTest extends Sentences {
 
     // Promise 3
     private void nonce() {
-        sentence("1000 * the number of crashes so far + how many nonces were given out ahead of it since the latest one "
-            + "(so the first is 0)");
+        sentence("1000 * the number of crashes so far + how many nonces were given out ahead of it since the latest "
+            + "one (so the first is 0)");
         Talk talk = new Talk(0);
         for (int i = 0; i < 3; i++) {
             due("nonce " + i, talk.ask().nonce(), i);
@@ -408,8 +408,8 @@ public final class PromiseTest extends Sentences {
 
     // Promise 18
     private void octet() {
-        sentence("Octet k (from 0) of a certificate; how many it has if k is -1; NONE if there is no such certificate or "
-            + "octet.");
+        sentence("Octet k (from 0) of a certificate; how many it has if k is -1; NONE if there is no such certificate "
+            + "or octet.");
         due("without certificates", new Talk(0).ask().octet(0, 0), -1);
         due("how many, without certificates", new Talk(0).ask().octet(0, -1), -1);
         Talk talk = Talk.certified(5, 1, "h.i");

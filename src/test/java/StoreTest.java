@@ -228,7 +228,8 @@ public final class StoreTest extends Sentences {
     }
 
     private void noRoomForDecision() {
-        sentence("If the store has no room for it, the authorization stays undecided (and is not under trial any more).");
+        sentence("If the store has no room for it, the authorization stays undecided (and is not under trial any "
+            + "more).");
         Talk talk = Talk.tried(7, 0, "a", "b").fill(ROOM - 4);
         talk.ask().cut(0);
         due("none is proved", talk.ask().tick(), 0);
